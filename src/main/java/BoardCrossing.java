@@ -633,8 +633,8 @@ public final class BoardCrossing {
 
         /** The column that a stroke from a cell leads to; a flood makes the current count twice. */
         int leadsTo(int column, int row, int steer, int times) {
-            int far = column + steer + times * currentAt(column, row);
-            return Math.max(0, Math.min(columns - 1, far));
+            int current = isCell(column, row) ? Math.max(0, pick(currents, cell(column, row))) : 0;
+            return Math.max(0, Math.min(columns - 1, column + steer + times * current));
         }
 
         int warmth(int board, int row, int column, int burden, int made, int hot) {
@@ -1742,10 +1742,24 @@ public final class BoardCrossing {
         }
 
         private int findFewest() {
+            for (int l = 0; l < scene.river.loadCount; l++) {
+                if (scene.placeOf(l) == NEAR_BANK && !hasRoomFor(scene.river.loadWide(l))) {
+                    return NONE;
+                }
+            }
             fewest = TOO_MANY;
             Arrays.fill(held, 0);
             place(0, 0);
             return fewest == TOO_MANY ? NONE : fewest;
+        }
+
+        private boolean hasRoomFor(int wide) {
+            for (int bin = 0; bin < binCount; bin++) {
+                if (wide <= pick(room, bin)) {
+                    return true;
+                }
+            }
+            return false;
         }
 
         /** Goes through all ways in their order, so that the first of the best ones stays. */

@@ -6,7 +6,8 @@ import java.util.Random;
 public final class ModelTest {
     private static final int RUNS = 220;
     private static final int CALLS = 500;
-    private static final int[] ODD = {-1, -2, -3, 8, 9, 30, 100, 1001, Integer.MAX_VALUE, Integer.MIN_VALUE};
+    private static final int[] ODD = {-1, -2, -3, 7, 8, 9, 30, 31, 32, 33, -32, -31, 64, 100, 1001, Integer.MAX_VALUE,
+        Integer.MIN_VALUE};
 
     private ModelTest() {
     }

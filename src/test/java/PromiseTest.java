@@ -265,6 +265,14 @@ public final class PromiseTest {
         Check.dueFault("heat ();", 2, 6);
         Check.dueFault("heat 1 or;", 2, 9);
         Check.dueFault("heat 1 and", 2, 10);
+        Check.dueFault("heat 1 and ;", 2, 11);
+        Check.dueFault("heat 1 or ;", 2, 10);
+        Check.dueFault("heat not ;", 2, 9);
+        Check.dueFault("heat 1<;", 2, 7);
+        Check.dueFault("heat 1*;", 2, 7);
+        Check.dueFault("heat (1+);", 2, 8);
+        Check.dueFault("heat (1 or ) ;", 2, 11);
+        Check.dueFault("heat (1$", 1, 7);
         Check.dueRiver("heat (((((((1)))))));", 0);
         Check.dueFault("heat ((((((((1))))))));", 2, 12);
         Check.dueRiver("heat not not not not not not not 1;", 0);
@@ -692,10 +700,12 @@ public final class PromiseTest {
         due("with what is there", 7, x.widest(0, 0));
         due("which", 2, x.widest(0, 1));
         x.stow(2, 0);
-        due("nothing more but nothing", 0, x.widest(0, 0));
+        due("no room but for nothing", 0, x.widest(0, 0));
         due("the least set of nothing", 0, x.widest(0, 1));
         x.stroke(0, 0, true);
         due("in the river", -1, x.widest(0, 0));
+        due("all of them", 127, told("board b wide 28 at 0;load c wide 1;load d wide 2;load e wide 3;load f wide 4;load g wide 5;"
+            + "load h wide 6;load i wide 7;").widest(0, 1));
         x.stroke(0, 0, true);
         due("none on the far bank", 0, x.widest(0, 0));
         x.take(2);
@@ -753,6 +763,9 @@ public final class PromiseTest {
         due("no loads", 0, told("board b wide 3 at 1;").stowing());
         x = told("board b wide 0 at 1;load j wide 0;");
         due("nothing is put, too", 1, x.stowing());
+        x = told("water 3 by 1;board b wide 5 at 1;load j wide 3;load k wide 3;");
+        x.stow(0, 0);
+        due("no room by its burden", -1, x.stowing());
     }
 
     // 24
@@ -769,6 +782,13 @@ public final class PromiseTest {
         due("meet(LOW, HIGH)", -1, x.meet(LOW, HIGH));
         x.stroke(0, 0, true);
         due("two rows", -1, x.meet(0, 1));
+        x = told("water 8 by 4;current 3 at 0 1;board b wide 1 at 0;board c wide 1 at 0;");
+        due("apart by the first stroke", 1, x.meet(0, 1));
+        x = told("water 8 by 4;current 3 at 0 1;iron 0 2;iron 5 2;board b wide 1 at 0;board c wide 1 at 7;");
+        x.stroke(0, 0, true);
+        x.stroke(1, 0, true);
+        due("from row 1", 2, x.meet(0, 1));
+        due("from row 1, turned", 2, x.meet(1, 0));
         due("never", -1, told("water 8 by 2;board b wide 1 at 0;board c wide 1 at 7;").meet(0, 1));
         due("at the far bank", 3, told("water 8 by 3;board b wide 1 at 0;board c wide 1 at 7;").meet(0, 1));
         due("one column wide", -1, told("water 1 by 3;board b wide 1 at 0;board c wide 1 at 0;").meet(0, 1));
@@ -836,6 +856,14 @@ public final class PromiseTest {
         x = told("water 3 by 4;board d wide 1 at 0 bears 1;board e wide 1 at 0 bears 0;iron 0 2;heat 1;");
         due("it hisses by then", -1, x.singe(0));
         due("it hisses later", 1, x.singe(1));
+        x = told("water 5 by 4;board d wide 1 at 0 bears 9;heat row*2+column+strokes;current 1 at 0 1;");
+        due("by row, column and strokes: 0, 3, 7, 10", 3, x.singe(0));
+        x.stroke(0, 0, true);
+        due("behind one", 2, x.singe(0));
+        x = told("water 5 by 4;board d wide 5 at 0 bears 9;heat load;load k wide 4;");
+        due("never without a load", -1, x.singe(0));
+        x.stow(0, 0);
+        due("by its load", 3, x.singe(0));
         x = told("water 2 by 1;board b wide 1 at 1 bears 5;heat 9;");
         due("at the far bank", 1, x.singe(0));
         x.stroke(0, 0, true);
@@ -881,6 +909,7 @@ public final class PromiseTest {
         due("over()", 0, x.over());
         due("left()", 115, x.left());
         due("pulled()", 6, x.pulled());
+        due("pulled() by 1", 1, told("board b wide 1 at 7;board c wide 1 at 6;current 1 at 7 0;").pulled());
         due("hottest()", 1, x.hottest());
         due("law(0)", 1, x.law(0));
         due("law(6)", 1, x.law(6));
@@ -1071,6 +1100,7 @@ public final class PromiseTest {
         due("image(-1)", -1, x.image(-1));
         due("back(3)", -1, x.back(3));
         due("back(LOW)", -1, x.back(LOW));
+        due("image(32)", -1, x.image(32));
         due("image(0)", 0, x.image(0));
         x.stow(0, 0);
         x.stow(1, 0);
@@ -1080,6 +1110,9 @@ public final class PromiseTest {
         x.take(1);
         x.passed(1, 1, true);
         due("back(1) of nothing", -1, x.back(1));
+        due("back(32)", -1, x.back(32));
+        due("back(-32)", -1, x.back(-32));
+        due("back(34)", -1, x.back(34));
         due("acts stay then", 5, x.about(6));
         x.undo();
         due("back(0)", 0, x.back(0));
