@@ -275,14 +275,14 @@ public final class BoardCrossing {
     }
 
     public int mooring(int what) {
+        // Nothing is found for another what, so what lay there is left alone.
+        if (what < 0 || what > 1) {
+            return NONE;
+        }
         harbour.findMooring();
         laid.clear();
         laid.addAll(harbour.bestColumns, scene.river.boardCount);
-        switch (what) {
-            case 0: return harbour.bestCount;
-            case 1: return harbour.bestBetween;
-            default: return NONE;
-        }
+        return what == 0 ? harbour.bestCount : harbour.bestBetween;
     }
 
     public int guests(int board, int other) {

@@ -843,6 +843,9 @@ final class Model {
     }
 
     int mooring(int what) {
+        if (what != 0 && what != 1) {
+            return -1;
+        }
         bestMooring = null;
         int[] landings = new int[told.boards.size()];
         for (int b = 0; b < landings.length; b++) {
@@ -851,7 +854,7 @@ final class Model {
         moor(new int[landings.length], 0, landings);
         lying.clear();
         lay(bestMooring);
-        return what == 0 ? landed(bestMooring) : what == 1 ? between(bestMooring) : -1;
+        return what == 0 ? landed(bestMooring) : between(bestMooring);
     }
 
     int guests(int a, int b) {

@@ -799,11 +799,18 @@ public final class PromiseTest {
     // 25
     private static void mooring() {
         BoardCrossing x = told("water 4 by 1;board b wide 1 at 1;board c wide 1 at 1;board d wide 1 at 1;board e wide 1 at 3;");
+        due("mooring(2)", -1, x.mooring(2));
+        Check.dueLying("nothing is found for another what", x);
         due("mooring(0)", 4, x.mooring(0));
         Check.dueLying("mooring", x, 0, 1, 2, 3);
-        due("mooring(1)", 2, x.mooring(1));
+        due("straight", 0, x.straight(0, 1));
         due("mooring(2)", -1, x.mooring(2));
         due("mooring(-1)", -1, x.mooring(-1));
+        due("mooring(least)", -1, x.mooring(Integer.MIN_VALUE));
+        due("mooring(most)", -1, x.mooring(Integer.MAX_VALUE));
+        Check.dueLying("what lay there is left alone", x, 0);
+        due("mooring(1)", 2, x.mooring(1));
+        Check.dueLying("mooring(1) lays it, too", x, 0, 1, 2, 3);
         x.stroke(0, 0, true);
         due("only boards at the near bank", 3, x.mooring(0));
         Check.dueLying("only boards at the near bank", x, -1, 0, 1, 3);
