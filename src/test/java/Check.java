@@ -5,15 +5,25 @@ import java.util.Arrays;
 final class Check {
     private static int wrong;
     private static int looked;
+    private static String heading = "";
 
     private Check() {
+    }
+
+    /** What stands ahead of each answer from here on that is not as due. */
+    static void head(String words) {
+        heading = words;
+    }
+
+    static int looked() {
+        return looked;
     }
 
     static void due(String call, long want, long got) {
         looked++;
         if (want != got) {
             wrong++;
-            System.out.println(call + " answered " + got + ", due is " + want);
+            System.out.println(heading + call + " answered " + got + ", due is " + want);
         }
     }
 
