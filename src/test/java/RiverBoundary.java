@@ -244,10 +244,10 @@ final class RiverBoundary extends Boundary {
             due("iron of an empty one", 0, x.spot(cell % 8, cell / 8, 1));
         }
         for (int i = 0; i < 3; i++) {
-            due("with heat", 1, Check.tell(x, "board ann wide 3 at 7 bears 9;heat 7+wide;"));
-            due("heat as it is told", 10, x.hotter(0));
-            due("another heat", 1, Check.tell(x, "board ann wide 3 at 7;heat 5-wide;"));
-            due("the other heat", 2, x.hotter(0));
+            due("with heat", 1, Check.tell(x, "board ann wide 3 at 7 bears 9;heat not 0;"));
+            due("heat as it is told", 1, x.hotter(0));
+            due("another heat", 1, Check.tell(x, "board ann wide 3 at 7;heat 7;"));
+            due("the other heat", 7, x.hotter(0));
             due("without heat", 1, Check.tell(x, "board ann wide 3 at 7;"));
             due("heat if it is not told", 1, x.hotter(0));
             due("bears if it is not told", 20, x.board(0, 6));
@@ -523,6 +523,12 @@ final class RiverBoundary extends Boundary {
         fault("heat (1;", 2, 7);
         fault("heat (1", 2, 7);
         fault("heat (", 2, 6);
+        fault("heat (;", 2, 6);
+        fault("heat (1+;", 2, 8);
+        fault("heat (1 or;", 2, 10);
+        fault("heat (not;", 2, 9);
+        fault("heat ((1);", 2, 9);
+        fault("heat ((1)+;", 2, 10);
         fault("heat 1);", 2, 6);
         fault("heat 1 1;", 2, 7);
         fault("heat row row;", 2, 9);
