@@ -12,11 +12,14 @@ public final class ModelTest {
     private ModelTest() {
     }
 
+    /** How many runs, and a seed, can be told; else they are those of .ci/run. */
     public static void main(String[] args) {
-        for (int run = 1; run <= RUNS; run++) {
-            run(run, new Random(run * 7919L));
+        int runs = args.length > 0 ? Integer.parseInt(args[0]) : RUNS;
+        long seed = args.length > 1 ? Long.parseLong(args[1]) : 0;
+        for (int run = 1; run <= runs; run++) {
+            run(run, new Random(run * 7919L + seed * 104729L));
         }
-        readTexts(new Random(4711));
+        readTexts(new Random(4711 + seed));
         Check.finish("ModelTest");
     }
 
